@@ -1915,16 +1915,20 @@ public final class NamesOnLetters {
             return fewest;
         }
 
+        /** A law by which both are alike goes against no answer, the others go against all answers but one. */
         private int mostLeft(int bits, int a, int b) {
-            int most = 0;
-            for (int taken = 0; taken <= 2; taken++) {
-                int left = 0;
-                for (int law = 0; law < MOST_TEXTS; law++) {
-                    left += (bits >> law & 1) == 1 && !goesAgainst(law, a, b, taken) ? 1 : 0;
+            int alike = 0;
+            int firsts = 0;
+            int seconds = 0;
+            for (int law = 0; law < MOST_TEXTS; law++) {
+                if ((bits >> law & 1) == 1) {
+                    int compared = Integer.compare(values[law][a], values[law][b]);
+                    alike += compared == 0 ? 1 : 0;
+                    firsts += compared > 0 ? 1 : 0;
+                    seconds += compared < 0 ? 1 : 0;
                 }
-                most = left > most ? left : most;
             }
-            return most;
+            return alike + Math.max(firsts, seconds);
         }
     }
 

@@ -67,7 +67,8 @@ public final class ChancesTest {
         due.call(x, -2, "least", 0, 100, 1, 1000000);
         due.row(x, 2);
         Model model = new Model();
-        int[][] more = {{60, 10, 800000, 50000}, {50, 20, 500000, 100000}, {90, 40, 900000, 50000}, {35, 25, 300000, 300000}};
+        int[][] more = {{60, 10, 800000, 50000}, {50, 20, 500000, 100000}, {90, 40, 900000, 50000}, {35, 25, 300000, 300000},
+            {70, 30, 580000, 20000}, {70, 30, 640000, 20000}};
         for (int[] a : more) {
             due.call(x, model.call("least", a), "least", a);
             due.call(x, model.row.get(0), "row", 0);

@@ -211,6 +211,9 @@ public final class ExplainedTest {
         due.row(x, 2, 15);
         due.call(x, 11 + 11 + 8, "mornings", 3, 5, 3);
         due.row(x, 1, 11);
+        due.call(x, 0, "mornings", 0, 0, 0);
+        due.row(x, 0, 0);
+        due.call(x, 11 + 11 + 8, "mornings", 3, 5, 3);
         int[][] wrong = {{-1, 0, 0}, {100, 0, 0}, {0, -1, 0}, {0, 100, 0}, {0, 0, -1}, {0, 0, 1000}};
         for (int[] a : wrong) {
             due.refused(x, "mornings", a);

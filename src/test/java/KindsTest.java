@@ -129,6 +129,15 @@ public final class KindsTest {
         y.kind(2, 100, 0);
         due.call(y, 2, "fit");
         due.row(y, 0, 0, 5, 5);
+        // one house, rung once: kinds 0, 1 and 2 are alike; what was likelier before is nothing to it
+        NamesOnLetters one = houses("R");
+        due.call(one, 1, "fit");
+        due.row(one, 0, 0, 10, 0);
+        one.kind(0, 2, 0);
+        one.kind(1, 1, 0);
+        one.kind(2, 1, 0);
+        due.call(one, 1, "fit");
+        due.row(one, 10, 0, 0, 0);
         // a house that no kind can have
         NamesOnLetters never = houses("S", "R");
         for (int k = 0; k < 4; k++) {
@@ -168,6 +177,9 @@ public final class KindsTest {
         due.call(x, 1, "named", 4, 225807);
         due.call(x, 3, "named", 4, 0);
         due.row(x, 19, 548023 + 774194 + 1000000, 0);
+        // of kind 0 alone: 221468, 225806, and 30 of 45
+        due.call(x, 1, "named", 1, 666666);
+        due.row(x, 16, 333334, 221468 + 225806);
         // of kinds 2 and 3 together: 451977, 225806 + 322580, 0
         due.call(x, 1, "named", 12, 500000);
         due.row(x, 2, 451614, 451977);

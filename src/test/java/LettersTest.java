@@ -129,6 +129,23 @@ public final class LettersTest {
             due.call(x, 0, "of", i, 6);
         }
         due.call(x, 595337866, "seed", 0);
+        peoplesDealt();
+    }
+
+    /** Which two are of PEOPLE 1, by the draw of six. */
+    private static void peoplesDealt() {
+        String[] ways = {"1100", "1010", "1001", "0110", "0101", "0011"};
+        for (int v = 0; v < 60; v++) {
+            NamesOnLetters x = new NamesOnLetters();
+            Due.names(x, "0011");
+            x.house(0, 0, 0);
+            x.seed(v);
+            due.call(x, 4, "deal", 0, 0, 0);
+            String way = ways[(v * 1103515245 + 12345 >>> 16) % 6];
+            for (int i = 0; i < 4; i++) {
+                due.is("people of letter " + i, x.of(i, 1) / 2, way.charAt(i) - '0');
+            }
+        }
     }
 
     private static void dealsRefused() {

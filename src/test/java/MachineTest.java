@@ -109,6 +109,17 @@ public final class MachineTest {
         y.asked(0, 3, 2);
         due.call(y, -2, "ask");
         due.row(y, 0, 3);
+        // letter 0 has the least of both: only letters 1 and 2 part the laws
+        NamesOnLetters z = new NamesOnLetters();
+        Due.names(z, "0");
+        z.house(0, 0, 0);
+        z.letter(0, 0, 10, 0, 0);
+        z.letter(0, 0, 20, 4 * 3, 0);
+        z.letter(0, 0, 30, 4 * 2, 0);
+        Due.law(z, 0, "w");
+        Due.law(z, 1, "e");
+        due.call(z, 1, "ask");
+        due.row(z, 1, 2);
     }
 
     private static void asksNone() {

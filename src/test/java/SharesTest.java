@@ -42,6 +42,8 @@ public final class SharesTest {
         Due.filter(x, 4, "-r");
         due.call(x, 3, "share", 4);
         due.row(x, 1, 1);
+        Due.filter(x, 4, "r=1");
+        due.call(x, 3, "share", 4);
         Due.filter(x, 5, "p&w<60");
         due.call(x, 2, "share", 5);
         due.row(x, 0, 1);
@@ -112,6 +114,16 @@ public final class SharesTest {
         due.row(x, 1, 4738381338321616896L);
         due.call(x, 0, "odds", -1, 1);
         due.row(x, 1, 1);
+        NamesOnLetters y = new NamesOnLetters();
+        Due.names(y, "1");
+        for (int h = 0; h < 24; h++) {
+            y.house(0, 0, 0);
+            for (int k = 0; k < 4; k++) {
+                Due.read(y, h, 0, true);
+            }
+        }
+        due.call(y, 0, "odds", -1, 2);
+        due.row(y, 1, 1);
     }
 
     private static void weighs() {
@@ -129,6 +141,30 @@ public final class SharesTest {
         // nothing changes it: of equal ones the first
         due.call(y, 0, "weighs");
         due.row(y, 1, 1);
+        weighsByHouses();
+    }
+
+    private static void weighsByHouses() {
+        NamesOnLetters x = new NamesOnLetters();
+        Due.names(x, "01");
+        for (int h = 0; h < 4; h++) {
+            x.house(0, 0, 0);
+        }
+        Due.read(x, 0, 0, true);
+        Due.read(x, 0, 1, false);
+        Due.read(x, 1, 0, true);
+        Due.read(x, 1, 0, true);
+        Due.read(x, 1, 1, false);
+        Due.read(x, 1, 1, false);
+        Due.read(x, 2, 0, false);
+        Due.read(x, 2, 1, true);
+        Due.read(x, 2, 1, true);
+        Due.read(x, 3, 0, false);
+        Due.read(x, 3, 1, false);
+        Due.read(x, 3, 1, true);
+        // 3/5 - 3/7 of all; it becomes 0, -4/15, 11/20, 7/20 without each
+        due.call(x, 1, "weighs");
+        due.row(x, -4, 15);
     }
 
     private static void weighsNone() {

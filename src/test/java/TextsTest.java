@@ -89,12 +89,12 @@ public final class TextsTest {
             "0000", "w<", "w<e<s", "w<e=s", "w=e>s", "w<e&s<d<p", "(w<e<s)", "w<(e)<s", "w<e+s<d", "w&", "w|", "w|&w",
             "w&|w", "w!", "w!w", "w(", "w(e)", "(w)(e)", "(w)1", "1(w)", "!", "-", "!)", "w*", "w**e", "w++e", "w<=e",
             "(", "(w", "((w)", "((((((w))))))", "((((()", "w<<e", "(w<e", "12+1234", "1+", "w\u0000", "\u00e9", "w\u00ff",
-            "(w)<(e)<(s)", "w|e<s<d", "w<e|s<d=p", "(1<2)<3<4"};
+            "(w)<(e)<(s)", "w|e<s<d", "w<e|s<d=p", "(1<2)<3<4", "(1)2"};
         int[] places = {0, 0, 0, 0, 0, 1, 0, 0, 0, 1, 1, 3, 1, 1, 1, 3,
             3, 2, 3, 3, 3, 7, 4, 5, 5, 2, 2, 2,
             2, 1, 1, 1, 1, 3, 3, 1, 1, 1, 1, 2, 2, -1, 2,
             1, 2, 4, 5, 5, 2, 4, 6, 2, 1, 0, 1,
-            7, 5, 7, 7};
+            7, 5, 7, 7, 3};
         NamesOnLetters x = new NamesOnLetters();
         Due.law(x, 0, "77");
         for (int k = 0; k < texts.length; k++) {
@@ -179,6 +179,19 @@ public final class TextsTest {
         due.call(x, 125, "value", 5, 2);
         due.call(x, 125, "value", 5, 0);
         due.call(x, 110, "value", 5, 3);
+        // the greatest worth of its own house: not the last one's, and not another house's
+        NamesOnLetters y = new NamesOnLetters();
+        Due.names(y, "0");
+        y.house(0, 0, 0);
+        y.house(0, 0, 0);
+        y.letter(0, 0, 90, 0, 0);
+        y.letter(0, 0, 70, 0, 0);
+        y.letter(1, 0, 99, 0, 0);
+        y.ring(0, false);
+        y.ring(1, false);
+        Due.law(y, 0, "m");
+        due.call(y, 90, "value", 0, 1);
+        due.call(y, 0, "value", 0, 2);
     }
 
     private static void valuesRefused() {
