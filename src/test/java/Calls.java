@@ -26,6 +26,21 @@ final class Calls {
         }
     }
 
+    /** What a call answers that is refused. */
+    static long refusal(String name) {
+        switch (name) {
+            case "end":
+            case "ring":
+            case "kind":
+            case "keep":
+            case "again": return 0;
+            case "of":
+            case "value":
+            case "row": return Model.THROWS;
+            default: return NamesOnLetters.NONE;
+        }
+    }
+
     private static long answer(NamesOnLetters x, String name, int[] a) {
         switch (name) {
             case "name": return x.name(a[0], a[1], a[2]);

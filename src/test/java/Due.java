@@ -1,6 +1,10 @@
+import java.util.List;
+import java.util.function.Supplier;
+
 /** Holds answers against those that are due, and ends the program with 1 if one was not. */
 final class Due {
     private final String of;
+    private String sentence = "";
     private int asked;
     private int wrong;
 
@@ -8,11 +12,16 @@ final class Due {
         this.of = of;
     }
 
+    /** What the document says of the answers that follow; told with each one that is not due. */
+    void says(String words) {
+        sentence = " (" + words + ")";
+    }
+
     void is(String what, long got, long want) {
         asked++;
         if (got != want) {
             wrong++;
-            System.out.println(of + ": " + what + " answered " + got + ", due is " + want);
+            System.out.println(of + sentence + ": " + what + " answered " + got + ", due is " + want);
         }
     }
 
@@ -31,6 +40,44 @@ final class Due {
 
     void thrown(NamesOnLetters x, String name, int... a) {
         call(x, Model.THROWS, name, a);
+    }
+
+    /** A call that changes nothing that a later call shows; made makes the same object each time. */
+    void nothing(Supplier<NamesOnLetters> made, long want, String name, int... a) {
+        alike(made, made, want, name, a);
+    }
+
+    /** A call after which an object shows what another one does without it. */
+    void alike(Supplier<NamesOnLetters> made, Supplier<NamesOnLetters> other, long want, String name, int... a) {
+        for (int view = 0; view < Shown.VIEWS; view++) {
+            NamesOnLetters x = made.get();
+            call(x, want, name, a);
+            List<String> got = Shown.of(view, x);
+            List<String> due = Shown.of(view, other.get());
+            String differing = "";
+            for (int k = 0; k < due.size() && differing.isEmpty(); k++) {
+                boolean same = k < got.size() && got.get(k).equals(due.get(k));
+                differing = same ? "" : (k < got.size() ? got.get(k) : "nothing") + ", not " + due.get(k);
+            }
+            is("after " + name + java.util.Arrays.toString(a) + ": " + differing, got.equals(due), true);
+        }
+    }
+
+    /** An argument that may be low .. high: taken on both ends and just inside, refused beyond, and then nothing. */
+    void range(Supplier<NamesOnLetters> made, int low, int high, String name, int at, int... a) {
+        for (int v : new int[] {low, low < high ? low + 1 : low, low < high ? high - 1 : high, high}) {
+            long got = Calls.call(made.get(), name, with(a, at, v));
+            is(name + java.util.Arrays.toString(with(a, at, v)) + " is refused", got == Calls.refusal(name), false);
+        }
+        for (int v : new int[] {low - 1, high + 1, Integer.MIN_VALUE, Integer.MAX_VALUE}) {
+            nothing(made, Calls.refusal(name), name, with(a, at, v));
+        }
+    }
+
+    private static int[] with(int[] a, int at, int v) {
+        int[] b = a.clone();
+        b[at] = v;
+        return b;
     }
 
     /** The whole row, and that nothing stands behind it. */
