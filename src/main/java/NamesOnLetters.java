@@ -344,7 +344,8 @@ public final class NamesOnLetters {
     private static long greatestDivisor(long a, long b) {
         long x = a < 0 ? -a : a;
         long y = b < 0 ? -b : b;
-        while (y != 0) {
+        // a hundred steps are more than two longs can take
+        for (int step = 0; step < 100 && y != 0; step++) {
             long left = x % y;
             x = y;
             y = left;
@@ -569,7 +570,7 @@ public final class NamesOnLetters {
         }
 
         private void putStronger(int least) {
-            while (top > 0 && strength(stack[top - 1]) >= least) {
+            for (int left = top; left > 0 && strength(stack[left - 1]) >= least; left--) {
                 put(-pop());
             }
         }

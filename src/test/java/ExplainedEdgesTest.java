@@ -96,6 +96,15 @@ public final class ExplainedEdgesTest {
         // high 1/2, low 1/3, then high 2/3, low 1/2: 1/6 less 1/6
         int[][] even = {{0, 0, 60, 0, 1}, {0, 0, 60, 0, 0}, {0, 0, 40, 0, 1}, {0, 0, 40, 0, 0}, {1, 0, 40, 0, 0},
             {1, 1, 60, 0, 1}, {1, 1, 60, 0, 1}, {1, 1, 60, 0, 0}, {2, 1, 40, 0, 1}, {2, 1, 40, 0, 0}};
+        // 1/2 less 0 less (0 less 0), then 1/2 less 1
+        NamesOnLetters up = read(new int[] {0, 0, 60, 0, 1}, new int[] {0, 0, 60, 0, 0}, new int[] {0, 0, 40, 0, 0},
+                new int[] {1, 1, 60, 0, 0}, new int[] {1, 1, 40, 0, 0});
+        due.call(up, 1, "both", 50);
+        due.row(up, 1, 2, 0, 1, 0, 1, 0, 1, 1, 2);
+        NamesOnLetters down = read(new int[] {0, 0, 60, 0, 1}, new int[] {0, 0, 60, 0, 0}, new int[] {0, 0, 40, 0, 0},
+                new int[] {1, 1, 60, 0, 1}, new int[] {1, 1, 40, 0, 0});
+        due.call(down, 2, "both", 50);
+        due.row(down, 1, 2, 0, 1, 1, 1, 0, 1, -1, 2);
         NamesOnLetters x = read(even);
         due.call(x, 0, "both", 50);
         due.row(x, 1, 2, 1, 3, 2, 3, 1, 2, 0, 1);
@@ -168,8 +177,14 @@ public final class ExplainedEdgesTest {
                 new int[] {1, 1, 5, 0, 1}, new int[] {1, 1, 5, 0, 0}, new int[] {2, 0, 5, 1, 0}, new int[] {2, 1, 5, 1, 1},
                 new int[] {3, 0, 5, 3, 1});
         // (5/6 - 2) / 7 = -1/6; all: 3/5 - 2/3 = -1/15; -1/15 + 1/6 = 1/10
+        for (int again = 0; again < 3; again++) {
+            due.call(x, 0, "explains", 0);
+            due.row(x, -1, 6, 1, 10);
+        }
+        // one more of PEOPLE 1 that is alone: of all 3/5 - 1/2
+        Due.read(x, 4, 1, 5, 2, false);
         due.call(x, 0, "explains", 0);
-        due.row(x, -1, 6, 1, 10);
+        due.row(x, -1, 6, 4, 15);
         // as far apart in each value as in all: nothing is explained
         NamesOnLetters y = read(new int[] {0, 0, 5, 0, 1}, new int[] {0, 1, 5, 0, 0}, new int[] {0, 0, 5, 1, 1}, new int[] {0, 1, 5, 1, 0});
         due.call(y, 0, "explains", 0);

@@ -10,6 +10,7 @@ public final class KeptEdgesTest {
         againFewerLetters();
         againOfNone();
         lettersSinceAreGone();
+        whatIsGoneIsNotAsked();
         toldLastUnderTheirNumbers();
         askingsAreGone();
         othersStay();
@@ -187,6 +188,46 @@ public final class KeptEdgesTest {
         full.deal(23, 1, 2);
         full.again(0);
         due.call(full, 96, "deal", 23, 1, 2);
+    }
+
+    private static NamesOnLetters goneOrNever(boolean gone) {
+        NamesOnLetters x = dealt(7);
+        for (int i = 0; i < 6; i++) {
+            x.ring(i, i % 3 == 0);
+        }
+        Due.law(x, 0, "w+n+k+m");
+        Due.law(x, 1, "d");
+        Due.filter(x, 0, "w>2");
+        if (gone) {
+            x.keep(2);
+            x.letter(1, 3, 99, 39, 0);
+            x.deal(2, 80, 90);
+            x.deal(3, 80, 90);
+            x.box(2, 96, 1, 0);
+            for (int i = 7; i < 16; i++) {
+                x.after(i, 2);
+            }
+            x.asked(0, 15, 1);
+            x.again(2);
+        }
+        return x;
+    }
+
+    private static void whatIsGoneIsNotAsked() {
+        due.says("47: LETTERS since are gone");
+        NamesOnLetters x = goneOrNever(true);
+        NamesOnLetters y = goneOrNever(false);
+        for (String call : Shown.ASKINGS) {
+            due.is(call, Shown.asked(x, call).equals(Shown.asked(y, call)), true);
+        }
+        for (String call : new String[] {"pairs", "ask", "nearly 0", "value 0 6", "value 0 0", "count 2", "read 96"}) {
+            due.is(call, Shown.asked(x, call).equals(Shown.asked(y, call)), true);
+        }
+        due.nothing(() -> {
+            NamesOnLetters z = goneOrNever(true);
+            z.ring(6, true);
+            return z;
+        }, 0, "read", 96);
     }
 
     private static void toldLastUnderTheirNumbers() {

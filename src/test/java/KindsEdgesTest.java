@@ -247,6 +247,17 @@ public final class KindsEdgesTest {
             due.call(y, 2, "fit");
             due.row(y, rows[k]);
         }
+        // one house rings by kind 0 alone, in one of a hundred cases; twelve are by other kinds alone: 1 tenth is best
+        String[] thirteen = new String[13];
+        java.util.Arrays.fill(thirteen, "1");
+        thirteen[6] = "R";
+        NamesOnLetters rare = houses(thirteen);
+        rare.kind(0, 1, 100);
+        for (int k = 1; k < 4; k++) {
+            rare.kind(k, 0, 0);
+        }
+        due.call(rare, 13, "fit");
+        due.row(rare, 1, 0, 0, 9);
         // three of R by two of 0: t to the third by (10 - t) squared is greatest at 6; two and one: at 6 or 7
         NamesOnLetters y = houses("R", "R", "R", "0", "0");
         y.kind(0, 100, 0);
@@ -446,6 +457,12 @@ public final class KindsEdgesTest {
         NamesOnLetters y = houses(all);
         due.call(y, 12, "most");
         due.row(y, 24, 95);
+        java.util.Arrays.fill(all, "R");
+        due.call(houses(all), 12, "most");
+        all[23] = "RR";
+        NamesOnLetters z = houses(all);
+        due.call(z, 12, "most");
+        due.row(z, 24, 25);
         java.util.Arrays.fill(all, "SSSS");
         due.call(houses(all), 0, "most");
     }

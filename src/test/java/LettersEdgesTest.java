@@ -18,6 +18,8 @@ public final class LettersEdgesTest {
         fewerThanTwoNames();
         dealUpToNinetySix();
         dealtByPeople();
+        dealtByDraws();
+        dealtAtTheEnds();
         ofArguments();
         ofReadAndRung();
         due.end();
@@ -311,6 +313,81 @@ public final class LettersEdgesTest {
             due.call(x, r, "seed", 0);
         }
         due.nothing(() -> peoples("001"), -1, "deal", 0, 1, 2);
+    }
+
+    private static void dealtByDraws() {
+        due.says("5: by DRAWS: of 6; then for each of the four, in order: its NAME; of 4: its STREET; of 400: its DAY");
+        for (String names : new String[] {"0011", "01010111", "111100001111", "010000000000"}) {
+            for (int seed = 0; seed < 60; seed++) {
+                NamesOnLetters x = new NamesOnLetters();
+                Model model = new Model();
+                for (char c : names.toCharArray()) {
+                    x.name(c - '0', 0, 0);
+                    model.call("name", c - '0', 0, 0);
+                }
+                for (int house = 0; house < 2; house++) {
+                    x.house(0, 0, 0);
+                    model.call("house", 0, 0, 0);
+                }
+                x.seed(seed * 715827883);
+                model.call("seed", seed * 715827883);
+                for (int house = 1; house >= 0; house--) {
+                    due.call(x, model.call("deal", house, 20, 80), "deal", house, 20, 80);
+                }
+                for (int i = 0; i < model.letters.size(); i++) {
+                    for (int what = 0; what < 9; what++) {
+                        due.call(x, model.letters.get(i)[what], "of", i, what);
+                    }
+                }
+                due.call(x, model.r, "seed", 0);
+            }
+        }
+    }
+
+    /** The R from which the third draw of a deal makes the first STREET, or the fourth one the first DAY. */
+    private static int before(int draws, int next) {
+        int r = next;
+        for (int k = 0; k < draws; k++) {
+            r = TermsEdgesTest.before(r);
+        }
+        return r;
+    }
+
+    private static void dealtAtTheEnds() {
+        due.says("5: of 4: its STREET; of 400: its DAY; of 6, of how many they are");
+        int[] tops = {0, 1, 2, 3, 4, 5, 6, 7, 398, 399, 400, 401, 32767, 32768, 65535};
+        for (int top : tops) {
+            NamesOnLetters street = peoples("0011");
+            street.seed(before(3, top << 16));
+            due.call(street, 4, "deal", 0, 0, 0);
+            due.call(street, top % 4, "of", 0, 4);
+            NamesOnLetters day = peoples("0011");
+            day.seed(before(4, top << 16 | 65535));
+            due.call(day, 4, "deal", 0, 0, 0);
+            due.call(day, top % 400, "of", 0, 5);
+            NamesOnLetters name = peoples("000000111111");
+            name.seed(before(2, top << 16));
+            due.call(name, 4, "deal", 0, 0, 0);
+            due.is("the first name by " + top, name.of(0, 1) % 6, top % 6);
+            // the second name of the same people is drawn of the five that are left, in order
+            NamesOnLetters next = peoples("000000111111");
+            next.seed(before(5, top << 16));
+            due.call(next, 4, "deal", 0, 0, 0);
+            boolean same = next.of(0, 1) / 6 == next.of(1, 1) / 6;
+            int at = same ? top % 5 : top % 6;
+            int skipped = same && next.of(0, 1) % 6 <= at ? 1 : 0;
+            due.is("the second name by " + top, next.of(1, 1) % 6, at + skipped);
+        }
+        due.says("5: WORTH: low for the first of its PEOPLE, high for the second one");
+        String[] worths = {"lhlh", "llhh", "llhh", "llhh", "llhh", "lhlh"};
+        for (int way = 0; way < 6; way++) {
+            NamesOnLetters x = peoples("0011");
+            x.seed(before(1, way << 16));
+            due.call(x, 4, "deal", 0, 11, 22);
+            for (int i = 0; i < 4; i++) {
+                due.call(x, worths[way].charAt(i) == 'l' ? 11 : 22, "of", i, 2);
+            }
+        }
     }
 
     private static void ofArguments() {

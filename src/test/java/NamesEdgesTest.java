@@ -7,6 +7,7 @@ public final class NamesEdgesTest {
         namesWithoutAny();
         drawnOfNone();
         drawnNoMoreThan();
+        drawnInAnyOrder();
         drawnEachOnce();
         goesArguments();
         goesWithoutPairs();
@@ -58,6 +59,7 @@ public final class NamesEdgesTest {
         NamesOnLetters x = named(new int[][] {{0, 0, 0, 0, 0, 0}, {0, 0, 0, 0, 0, 1}, {0, 0, 0, 0, 1, 1},
             {0, 0, 0, 0, 2, 6}, {1, 0, 0, 0, 3, 4}});
         x.letter(23, 0, 0, 0, 0);
+        due.call(x, 0, "names", 0);
         long[][] rows = {{}, {0, 1}, {1, 1}, {1, 3}, {3, 4}};
         int[] letters = {0, 1, 1, 6, 4};
         for (int n = 4; n >= 0; n--) {
@@ -65,8 +67,10 @@ public final class NamesEdgesTest {
             due.row(x, rows[n]);
         }
         x.ring(12, true);
-        due.call(x, 1, "names", 0);
-        due.row(x, 1, 1);
+        for (int again = 0; again < 3; again++) {
+            due.call(x, 1, "names", 0);
+            due.row(x, 1, 1);
+        }
     }
 
     private static void drawnOfNone() {
@@ -112,6 +116,28 @@ public final class NamesEdgesTest {
         NamesOnLetters w = named(new int[][] {{1, 0, 0, 0, 1, 2}, {1, 0, 0, 0, 1, 3}, {0, 0, 0, 0, 5, 6}, {0, 0, 0, 0, 0, 1}});
         w.drawn();
         due.row(w, 2, 3);
+    }
+
+    /** The same names told in another order are drawn alike: each of their counts of letters stands first once. */
+    private static void drawnInAnyOrder() {
+        int[][][] sets = {{{1, 0, 0, 0, 2, 3}, {0, 0, 0, 0, 0, 1}, {0, 0, 0, 0, 1, 2}, {0, 0, 0, 0, 5, 7}},
+            {{1, 0, 0, 0, 3, 5}, {1, 0, 0, 0, 3, 7}, {0, 0, 0, 0, 4, 7}, {0, 0, 0, 0, 1, 2}, {0, 0, 0, 0, 2, 3}}};
+        // 0, 1/2 and 2/3 of four; of ten pairs 3/5 + 3/7 is more than 3/7 + 4/7, 3/7 + 1/2
+        long[][] rows = {{3, 4}, {3, 10}};
+        for (int s = 0; s < 2; s++) {
+            int n = sets[s].length;
+            for (int turn = 0; turn < n; turn++) {
+                int[][] names = new int[n][];
+                for (int k = 0; k < n; k++) {
+                    names[k] = sets[s][(k + turn) % n];
+                }
+                NamesOnLetters x = named(names);
+                for (int again = 0; again < 2; again++) {
+                    due.call(x, 0, "drawn");
+                    due.row(x, rows[s]);
+                }
+            }
+        }
     }
 
     private static void drawnEachOnce() {

@@ -78,6 +78,9 @@ public final class SharesEdgesTest {
         due.row(x, 1, 1);
         due.call(x, 1, "share", 3);
         due.row(x, 0, 1);
+        NamesOnLetters z = houses("RS01");
+        due.call(z, 4, "share", -1);
+        due.row(z, 1, 2);
         NamesOnLetters y = houses("..");
         y.pairs();
         due.call(y, 0, "share", -1);
@@ -196,7 +199,12 @@ public final class SharesEdgesTest {
         // one ring of PEOPLE 1: 4 ways in each of 24 houses; and the one without any
         odds(houses(one), -1, 97, 4738381338321616896L, 4738381338321616895L, 4738381338321616896L,
                 1, 49358138940850176L);
-        odds(houses(times("SSSS", 24)), -1, 1, 1, 1, 1, 1, 1);
+        NamesOnLetters all = houses(times("SSSS", 24));
+        odds(all, -1, 1, 1, 1, 1, 1, 1);
+        Due.filter(all, 0, "0");
+        odds(all, 0, 1, 1, 1, 1, 1, 1);
+        Due.filter(all, 0, "t=3");
+        odds(all, 0, 1, 1, 1, 1, 1, 1);
     }
 
     private static void weighsNone() {
@@ -252,6 +260,14 @@ public final class SharesEdgesTest {
         NamesOnLetters v = houses("01", "01", "RR11");
         due.call(v, 2, "weighs");
         due.row(v, 0, 1);
+        // 3/5 - 3/7 of all; it becomes 0, -4/15, 11/20, 7/20 without each
+        NamesOnLetters t = houses("R1", "RR11", "0SS", "01S");
+        due.call(t, 1, "weighs");
+        due.row(t, -4, 15);
+        // -1/4 of all; it becomes -2/3, 0, -1/3, 1/4 without each
+        NamesOnLetters s = houses("R1", "00", "01", "SS");
+        due.call(s, 3, "weighs");
+        due.row(s, 1, 4);
         due.says("20: the ROW: ASIDE without them as a fraction");
         NamesOnLetters u = houses("R1", "R1", "00");
         u.pairs();

@@ -5,6 +5,12 @@ import java.util.List;
 /** What later calls show of an object. Each view uses its object up, and keeps it under 512 calls. */
 final class Shown {
     static final int VIEWS = 7;
+    /** Calls that ask what the read letters tell, and change nothing but the ROW. */
+    static final String[] ASKINGS = {"share -1", "share 0", "aside -1", "aside 0", "odds -1 0", "odds 0 1", "odds 0 2",
+        "weighs", "names 0", "names 1", "drawn", "goes 0", "goes 1", "goes 2", "goes 3", "says", "child 1", "table 0 0",
+        "table 1 0", "table 0 1", "fit", "likely 0 2", "likely 3 1", "named 15 0", "named 1 200000", "sure 1 0", "most",
+        "both 50", "both 40", "explains 0", "explains 1", "explains 2", "explains 3", "join 0", "join 1", "join 2",
+        "bounds 0", "bounds 1", "years 0", "years 45", "mornings 5 7 9", "count 3", "count 4"};
 
     private final NamesOnLetters x;
     private final List<String> list = new ArrayList<>();
@@ -25,6 +31,37 @@ final class Shown {
             default: shown.kept();
         }
         return shown.list;
+    }
+
+    static String name(String call) {
+        return call.split(" ")[0];
+    }
+
+    static int[] arguments(String call) {
+        String[] parts = call.split(" ");
+        int[] a = new int[parts.length - 1];
+        for (int k = 0; k < a.length; k++) {
+            a[k] = Integer.parseInt(parts[k + 1]);
+        }
+        return a;
+    }
+
+    static long called(NamesOnLetters x, String call) {
+        return Calls.call(x, name(call), arguments(call));
+    }
+
+    static long answer(Model model, String call) {
+        return model.call(name(call), arguments(call));
+    }
+
+    /** What is answered, and the whole ROW then. */
+    static String asked(NamesOnLetters x, String call) {
+        StringBuilder all = new StringBuilder().append(called(x, call));
+        int numbers = x.count(8);
+        for (int i = 0; i < numbers; i++) {
+            all.append(' ').append(x.row(i));
+        }
+        return all.toString();
     }
 
     private void show(String name, int... a) {

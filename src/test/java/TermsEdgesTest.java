@@ -14,6 +14,8 @@ public final class TermsEdgesTest {
         fractions();
         kindsAtFirst();
         rowStays();
+        askingsLeaveAll();
+        askingsOfAFullOne();
         due.end();
     }
 
@@ -176,25 +178,66 @@ public final class TermsEdgesTest {
 
     private static void readAlone() {
         due.says("Asked are LETTERS that are READ alone, if nothing else is said");
-        String[] calls = {"share -1", "share 0", "aside -1", "aside 0", "odds -1 0", "odds 0 1", "odds 0 2", "weighs",
-            "names 0", "names 1", "drawn", "goes 0", "goes 1", "goes 2", "goes 3", "says", "child 1", "table 0 0",
-            "table 1 0", "table 0 1", "fit", "likely 0 2", "likely 3 1", "named 15 0", "named 1 200000", "sure 1 0",
-            "most", "both 50", "both 40", "explains 0", "explains 1", "explains 2", "explains 3", "join 0", "join 1",
-            "join 2", "bounds 0", "bounds 1", "years 0", "years 45", "mornings 5 7 9", "count 3", "count 4"};
         NamesOnLetters x = withUnread(true);
         NamesOnLetters y = withUnread(false);
-        for (String call : calls) {
-            String[] parts = call.split(" ");
-            int[] a = new int[parts.length - 1];
-            for (int k = 0; k < a.length; k++) {
-                a[k] = Integer.parseInt(parts[k + 1]);
+        for (String call : Shown.ASKINGS) {
+            due.is(call, Shown.asked(x, call).equals(Shown.asked(y, call)), true);
+        }
+    }
+
+    private static void askingsLeaveAll() {
+        due.says("numbers told last: a call that asks changes nothing but the ROW, and answers so again");
+        for (String first : Shown.ASKINGS) {
+            NamesOnLetters x = States.rich();
+            String answer = Shown.asked(x, first);
+            due.is(first + " again", Shown.asked(x, first).equals(answer), true);
+            for (String then : Shown.ASKINGS) {
+                NamesOnLetters y = States.rich();
+                Shown.asked(y, first);
+                x = States.rich();
+                Shown.asked(x, "pairs");
+                Shown.asked(y, "pairs");
+                due.is(then + " after " + first, Shown.asked(y, then).equals(Shown.asked(x, then)), true);
             }
-            due.call(x, Calls.call(y, parts[0], a), parts[0], a);
-            long[] row = new long[y.count(8)];
-            for (int i = 0; i < row.length; i++) {
-                row[i] = y.row(i);
+        }
+    }
+
+    /** All that is told is as much as can be: 12 names, 24 houses, 96 letters, all of them read. */
+    private static void askingsOfAFullOne() {
+        due.says("at most 12, at most 24, at most 96");
+        for (int run = 0; run < 6; run++) {
+            Model model = new Model();
+            java.util.List<String> calls = new java.util.ArrayList<>();
+            for (int n = 0; n < 12; n++) {
+                calls.add("name " + (n + run) % 2 + " " + n / 2 % 2 + " " + 1009 * n / 11);
             }
-            due.row(x, row);
+            for (int h = 0; h < 24; h++) {
+                calls.add("house " + h % 4 + " " + h / 6 + " 0");
+            }
+            for (int i = 0; i < 96; i++) {
+                calls.add("letter " + i / 4 + " " + i * 7 % 12 + " " + i * 41 % 100 + " " + i * (run + 1) % 40 + " " + i);
+                calls.add("ring " + i + " " + (i * i * (run + 3) / 7 % (2 + run / 2) == 0 ? 1 : 0));
+                calls.add("after " + i + " " + i / 3 % 3);
+            }
+            for (String call : calls) {
+                Shown.answer(model, call);
+            }
+            model.filters[0] = "w>40";
+            for (String call : Shown.ASKINGS) {
+                NamesOnLetters x = new NamesOnLetters();
+                for (String told : calls) {
+                    Shown.called(x, told);
+                }
+                due.is("filter", Due.filter(x, 0, "w>40"), 0);
+                due.call(x, 96, "count", 3);
+                model.row = new java.util.ArrayList<>();
+                due.is(call, Shown.called(x, call), Shown.answer(model, call));
+                long[] row = new long[model.row.size()];
+                for (int i = 0; i < row.length; i++) {
+                    row[i] = model.row.get(i);
+                }
+                due.row(x, row);
+            }
         }
     }
 
@@ -263,9 +306,7 @@ public final class TermsEdgesTest {
         String[] none = {"aside -1", "weighs", "drawn", "both 50", "explains 0", "explains 1", "explains 2", "explains 3",
             "join 0", "join 1", "join 2", "bounds 0", "bounds 1", "years 50", "ask"};
         for (String call : none) {
-            String[] parts = call.split(" ");
-            int[] a = parts.length > 1 ? new int[] {Integer.parseInt(parts[1])} : new int[0];
-            due.nothing(States::unwritten, -2, parts[0], a);
+            due.nothing(States::unwritten, -2, Shown.name(call), Shown.arguments(call));
         }
         due.nothing(States::unwritten, -2, "least", 0, 100, 1, 0);
         due.nothing(States::unwritten, -2, "box", 0, -1, 0, 0);
@@ -277,12 +318,7 @@ public final class TermsEdgesTest {
             "filter 0", "keep 0", "again 0", "asked 0 1 1", "kind 0 1 1", "parts 0 1", "name 0 0 0", "house 0 0 0",
             "letter 3 0 0 0 0", "deal 4 0 0", "row 0"};
         for (String call : others) {
-            String[] parts = call.split(" ");
-            int[] a = new int[parts.length - 1];
-            for (int k = 0; k < a.length; k++) {
-                a[k] = Integer.parseInt(parts[k + 1]);
-            }
-            Calls.call(x, parts[0], a);
+            Shown.called(x, call);
             due.row(x, 1, 6, 3, 2, 2, 1);
         }
     }

@@ -21,6 +21,8 @@ public final class TextsEdgesTest {
         binding();
         asInts();
         oneOrNothing();
+        everySign();
+        toldAnew();
         toldNow();
         valueArguments();
         due.end();
@@ -382,6 +384,64 @@ public final class TextsEdgesTest {
         for (int k = 0; k < texts.length; k++) {
             value(texts[k], want[k]);
         }
+    }
+
+    private static void everySign() {
+        due.says("a SIGN: w, e, s, d of the LETTER, p, x, c, a of its NAME, t, o of its HOUSE; n, k, m; r");
+        int[][] letters = {{0, 0, 0, 0, 0, 0, 0, 0, 0, 0}, {99, 9, 3, 399, 1, 1, 9, 100, 3, 3},
+            {98, 8, 2, 398, 1, 0, 8, 99, 2, 1}, {1, 1, 1, 1, 0, 1, 1, 1, 1, 2}};
+        for (int[] a : letters) {
+            NamesOnLetters x = new NamesOnLetters();
+            x.name(a[4], a[5], 101 * a[6] + a[7]);
+            x.house(a[8], a[9], 0);
+            x.letter(0, 0, a[0], 4 * a[1] + a[2], a[3]);
+            for (int k = 0; k < 10; k++) {
+                String sign = "wesdpxcato".substring(k, k + 1);
+                due.is("law " + sign, Due.law(x, 0, sign), 0);
+                due.call(x, a[k], "value", 0, 0);
+            }
+            for (String sign : new String[] {"n", "k", "m"}) {
+                due.is("law " + sign, Due.law(x, 0, sign), 0);
+                due.call(x, 0, "value", 0, 0);
+            }
+            x.ring(0, true);
+            for (int k = 0; k < 10; k++) {
+                String sign = "wesdpxcato".substring(k, k + 1);
+                due.is("filter " + sign, Due.filter(x, 0, sign + "=" + a[k]), 0);
+                due.call(x, 1, "share", 0);
+            }
+        }
+    }
+
+    private static void toldAnew() {
+        due.says("9, 10: THE TEXT is a LAW: one told before under its number is gone");
+        NamesOnLetters x = States.unwritten();
+        x.end(0);
+        x.letter(0, 0, 7, 0, 0);
+        String[] texts = {"1+2+3", "9", "w*w*w", "!w", "5"};
+        int[] want = {6, 9, 343, 0, 5};
+        for (int k = 0; k < texts.length; k++) {
+            due.is("law " + texts[k], Due.law(x, 3, texts[k]), 0);
+            due.call(x, want[k], "value", 3, 0);
+            // a wrong one leaves it
+            due.is("law +", Due.law(x, 3, "1+2+"), -5);
+            due.call(x, want[k], "value", 3, 0);
+            due.call(x, 9, "count", 5);
+        }
+        // as long as can be, and again
+        for (int k = 1; k <= 9; k++) {
+            due.is("law of 40 signs", Due.law(x, 3, times("!", 38) + "1" + k), 0);
+            due.call(x, 1, "value", 3, 0);
+            due.is("law of 39 signs", Due.law(x, 3, times("1+", 19) + k), 0);
+            due.call(x, 19 + k, "value", 3, 0);
+        }
+        x.ring(0, true);
+        due.is("filter w", Due.filter(x, 3, "w"), 0);
+        due.call(x, 1, "share", 3);
+        due.is("filter !w", Due.filter(x, 3, "!w"), 0);
+        due.call(x, 0, "share", 3);
+        due.is("filter +", Due.filter(x, 3, "w+"), -3);
+        due.call(x, 0, "share", 3);
     }
 
     /** Two houses, four letters to the first, one to the other. */
